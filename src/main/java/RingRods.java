@@ -471,7 +471,8 @@ public final class RingRods {
 
         /** How many places the left end of a rod lies to the right of that of another one. */
         int distance(int from, int to) {
-            return onRing(place[to] - place[from]);
+            int ahead = place[to] - place[from];
+            return ahead < 0 ? ahead + ringLength : ahead;
         }
 
         /** How many rods there are from one rod on, before another one to its right. */

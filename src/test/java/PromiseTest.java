@@ -593,6 +593,8 @@ final class PromiseTest {
 
     private static void meetings() {
         RingRods rods = ring(100, 0, 10, 5, 50, 10, -5);
+        due("meetings 1", rods.meetings(1, 0), 0);
+        due("impulses 1", rods.meetings(1, 1), 0);
         due("meetings before", rods.meetings(3, 0), 0);
         due("meetings at the very end", rods.meetings(4, 0), 1);
         due("impulse", rods.meetings(4, 1), 10);
