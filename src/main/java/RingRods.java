@@ -763,9 +763,10 @@ public final class RingRods {
             int closing = state.speed[left] - state.speed[right];
             int times = crossingsOf(state, left, right, ticks);
             int upper = state.freeBetween(left, right);
+            int free = state.freeLength();
             for (int time = 0; time < times; time++) {
                 mark(upper, closing);
-                upper += state.freeLength();
+                upper += free;
             }
         }
 

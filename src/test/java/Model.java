@@ -83,6 +83,17 @@ final class Model {
     final List<State> history = new ArrayList<>();
     final StringBuilder text = new StringBuilder();
 
+    Model copy() {
+        Model copy = new Model();
+        copy.now = now.copy();
+        copy.snapshot = snapshot == null ? null : snapshot.copy();
+        for (State state : history) {
+            copy.history.add(state.copy());
+        }
+        copy.text.append(text);
+        return copy;
+    }
+
     static long gap(State state, Rod left, Rod right) {
         long whole = state.ring * PARTS;
         if (left == right) {

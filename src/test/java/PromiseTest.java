@@ -1,12 +1,12 @@
 /** Each promise of the document by itself: ordinary inputs, edges, wrong inputs. */
 final class PromiseTest {
-    private static final int UNKNOWN = -1;
-    private static final int BAD_VALUE = -2;
-    private static final int FULL = -3;
-    private static final int NOT_POSSIBLE = -4;
-    private static final int NONE = -5;
-    private static final int LEAST = Integer.MIN_VALUE;
-    private static final int GREATEST = Integer.MAX_VALUE;
+    private static final int UNKNOWN = Checks.UNKNOWN;
+    private static final int BAD_VALUE = Checks.BAD_VALUE;
+    private static final int FULL = Checks.FULL;
+    private static final int NOT_POSSIBLE = Checks.NOT_POSSIBLE;
+    private static final int NONE = Checks.NONE;
+    private static final int LEAST = Checks.LEAST;
+    private static final int GREATEST = Checks.GREATEST;
 
     private static final Checks CHECKS = new Checks();
 
@@ -47,20 +47,12 @@ final class PromiseTest {
         CHECKS.due(call, got, want);
     }
 
-    /** A ring, and rods of which each has a place, a length and a speed. */
     private static RingRods ring(int length, int... rods) {
-        RingRods made = new RingRods();
-        made.setRing(length);
-        for (int at = 0; at + 2 < rods.length; at += 3) {
-            due("number of a new rod", made.addRod(rods[at], rods[at + 1], rods[at + 2]), at / 3);
-        }
-        return made;
+        return CHECKS.ring(length, rods);
     }
 
     private static int performed(RingRods rods, String text) {
-        rods.clearText();
-        CHECKS.type(rods, text);
-        return rods.perform();
+        return CHECKS.performed(rods, text);
     }
 
     private static void constants() {
